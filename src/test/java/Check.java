@@ -17,6 +17,10 @@ final class Check {
         long answer();
     }
 
+    interface TextCall {
+        String answer();
+    }
+
     static long answerOf(Call call) {
         try {
             return call.answer();
@@ -33,12 +37,20 @@ final class Check {
     }
 
     static void same(String what, long want, long got) {
-        if (got == want) {
-            return;
+        if (got != want) {
+            show(what + ": answered " + shown(got) + ", due is " + shown(want));
         }
-        wrong++;
-        if (wrong <= MOST_SHOWN) {
-            System.out.println(what + ": answered " + shown(got) + ", due is " + shown(want));
+    }
+
+    static void text(String what, String want, TextCall call) {
+        String got;
+        try {
+            got = call.answer();
+        } catch (RuntimeException e) {
+            got = "throws." + e.getClass().getSimpleName();
+        }
+        if (!got.equals(want)) {
+            show(what + ": answered " + got + ", due is " + want);
         }
     }
 
@@ -51,6 +63,13 @@ final class Check {
         System.out.println(wrong == 0 ? "all answers are as due" : wrong + " answers are not as due");
         if (wrong != 0) {
             System.exit(1);
+        }
+    }
+
+    private static void show(String fault) {
+        wrong++;
+        if (wrong <= MOST_SHOWN) {
+            System.out.println(fault);
         }
     }
 

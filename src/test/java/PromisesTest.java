@@ -1,7 +1,7 @@
 /** Each promise with ordinary inputs, the edges that the document names, and wrong inputs. */
 public final class PromisesTest {
-    private static final int MIN = Integer.MIN_VALUE;
-    private static final int MAX = Integer.MAX_VALUE;
+    private static final int MIN = Trees.MIN;
+    private static final int MAX = Trees.MAX;
     private static final int[] NO_HANDLES = {MIN, -4, -3, -2, -1, 8, 9, MAX};
 
     private PromisesTest() {
@@ -37,63 +37,17 @@ public final class PromisesTest {
         Check.end();
     }
 
-    /** A seed whose first weights are these. A weight hangs on the lowest 20 bits of a seed alone. */
-    private static int seedFor(int... weights) {
-        for (int seed = 0; seed < 1 << 20; seed++) {
-            int state = seed;
-            int drawn = 0;
-            while (drawn < weights.length) {
-                state = state * 1103515245 + 12345;
-                if (((state >>> 16) & 15) != weights[drawn]) {
-                    break;
-                }
-                drawn++;
-            }
-            if (drawn == weights.length) {
-                return seed;
-            }
-        }
-        throw new IllegalStateException("no seed draws these weights");
-    }
-
-    private static TreapVersions withWeights(int room, int versions, int... weights) {
-        return new TreapVersions(room, versions, seedFor(weights));
-    }
-
-    /** Handle 4 is the tree 4 (2 (1, none), 6) with weights 9, 5, 7, 3; the handles 0 .. 3 are what led to it. */
-    private static TreapVersions fourKeys(int room) {
-        TreapVersions x = withWeights(room, 8, 9, 5, 7, 3);
-        Check.same("four keys: put 4", 1, x.put(0, 4, 40));
-        Check.same("four keys: put 2", 2, x.put(1, 2, 20));
-        Check.same("four keys: put 6", 3, x.put(2, 6, 60));
-        Check.same("four keys: put 1", 4, x.put(3, 1, 10));
-        return x;
-    }
-
-    private static void isTree(String what, TreapVersions x, int version, int[] keys, int[] depths) {
-        Check.same(what + ": size", keys.length, x.size(version));
-        for (int i = 0; i < keys.length; i++) {
-            int at = i;
-            Check.same(what + ": key " + i, keys[i], () -> x.keyAt(version, at));
-            Check.same(what + ": depth of " + keys[i], depths[i], () -> x.depth(version, keys[at]));
-        }
-    }
-
-    private static int[] row(int... numbers) {
-        return numbers;
-    }
-
     private static void newObject() {
-        for (int room : row(1, 2, 3, 19, 20, 21, 39, 40)) {
+        for (int room : Trees.row(1, 2, 3, 19, 20, 21, 39, 40)) {
             Check.same("room of " + room, room, roomOf(new TreapVersions(room, 2, 1)));
         }
-        for (int room : row(MIN, -1, 0, 41, MAX)) {
+        for (int room : Trees.row(MIN, -1, 0, 41, MAX)) {
             Check.same("room of " + room, 20, roomOf(new TreapVersions(room, 2, 1)));
         }
         for (int versions = 1; versions <= 8; versions++) {
             Check.same("versions of " + versions, versions, handlesOf(new TreapVersions(1, versions, 1)));
         }
-        for (int versions : row(MIN, -1, 0, 9, MAX)) {
+        for (int versions : Trees.row(MIN, -1, 0, 9, MAX)) {
             Check.same("versions of " + versions, 4, handlesOf(new TreapVersions(1, versions, 1)));
         }
         TreapVersions x = new TreapVersions(5, 5, 0);
@@ -134,7 +88,7 @@ public final class PromisesTest {
     }
 
     private static void putNewKey() {
-        TreapVersions x = withWeights(40, 8, 5, 9, 3, 7);
+        TreapVersions x = Trees.withWeights(40, 8, 5, 9, 3, 7);
         Check.same("put 4", 1, x.put(0, 4, 40));
         Check.same("put 4: used", 1, x.used());
         Check.same("put 2", 2, x.put(1, 2, 20));
@@ -143,16 +97,16 @@ public final class PromisesTest {
         Check.same("put 6: used", 6, x.used());
         Check.same("put 3", 4, x.put(3, 3, 30));
         Check.same("put 3: used", 9, x.used());
-        isTree("put, version 0", x, 0, row(), row());
-        isTree("put, version 1", x, 1, row(4), row(0));
-        isTree("put, version 2", x, 2, row(2, 4), row(0, 1));
-        isTree("put, version 3", x, 3, row(2, 4, 6), row(0, 1, 2));
-        isTree("put, version 4", x, 4, row(2, 3, 4, 6), row(0, 1, 2, 3));
+        Trees.isTree("put, version 0", x, 0, "-");
+        Trees.isTree("put, version 1", x, 1, "4");
+        Trees.isTree("put, version 2", x, 2, "2(-,4)");
+        Trees.isTree("put, version 3", x, 3, "2(-,4(-,6))");
+        Trees.isTree("put, version 4", x, 4, "2(-,3(-,4(-,6)))");
         Check.same("put shares 6", 1, x.shared(3, 4));
     }
 
     private static void putOldKey() {
-        TreapVersions x = withWeights(40, 8, 5, 9, 3, 7);
+        TreapVersions x = Trees.withWeights(40, 8, 5, 9, 3, 7);
         x.put(0, 4, 40);
         x.put(1, 2, 20);
         x.put(2, 6, 60);
@@ -162,51 +116,51 @@ public final class PromisesTest {
         Check.same("put 3 again: shares 4 and 6", 2, x.shared(4, 5));
         Check.same("put 3 again: new value", 33, () -> x.get(5, 3));
         Check.same("put 3 again: old value stays", 30, () -> x.get(4, 3));
-        isTree("put 3 again", x, 5, row(2, 3, 4, 6), row(0, 1, 2, 3));
+        Trees.isTree("put 3 again", x, 5, "2(-,3(-,4(-,6)))");
         Check.same("put the same value", 6, x.put(5, 2, 20));
         Check.same("put the same value copies", 12, x.used());
         Check.same("put the same value shares the rest", 3, x.shared(5, 6));
     }
 
     private static void putSplitsTheWay() {
-        TreapVersions x = withWeights(40, 8, 8, 6, 4, 9);
+        TreapVersions x = Trees.withWeights(40, 8, 8, 6, 4, 9);
         x.put(0, 10, 1);
         x.put(1, 2, 1);
         x.put(2, 6, 1);
-        isTree("before the split", x, 3, row(2, 6, 10), row(1, 2, 0));
+        Trees.isTree("before the split", x, 3, "10(2(-,6),-)");
         Check.same("put that splits", 4, x.put(3, 4, 1));
-        isTree("after the split", x, 4, row(2, 4, 6, 10), row(1, 0, 2, 1));
+        Trees.isTree("after the split", x, 4, "4(2,10(6,-))");
         Check.same("the split copies all of its way", 0, x.shared(3, 4));
         Check.same("the split: used", 10, x.used());
     }
 
     private static void putWithEqualWeights() {
-        TreapVersions x = withWeights(40, 8, 7, 7, 7);
+        TreapVersions x = Trees.withWeights(40, 8, 7, 7, 7);
         x.put(0, 2, 1);
         x.put(1, 1, 1);
         x.put(2, 3, 1);
-        isTree("equal weights, lesser key", x, 2, row(1, 2), row(0, 1));
-        isTree("equal weights, greater key", x, 3, row(1, 2, 3), row(0, 1, 2));
-        TreapVersions y = withWeights(40, 8, 7, 7);
+        Trees.isTree("equal weights, lesser key", x, 2, "1(-,2)");
+        Trees.isTree("equal weights, greater key", x, 3, "1(-,2(-,3))");
+        TreapVersions y = Trees.withWeights(40, 8, 7, 7);
         y.put(0, MAX, 1);
         y.put(1, MIN, 1);
-        isTree("equal weights, edges of int", y, 2, row(MIN, MAX), row(0, 1));
+        Trees.isTree("equal weights, edges of int", y, 2, "-2147483648(-,2147483647)");
     }
 
     private static void putDrawsOnlyWhenItMakes() {
-        TreapVersions x = withWeights(40, 8, 5, 9, 1);
+        TreapVersions x = Trees.withWeights(40, 8, 5, 9, 1);
         x.put(0, 1, 1);
         x.put(1, 1, 2);
         x.put(2, 2, 2);
-        isTree("an old key draws no weight", x, 3, row(1, 2), row(1, 0));
-        TreapVersions y = withWeights(40, 2, 5, 9, 1);
+        Trees.isTree("an old key draws no weight", x, 3, "2(1,-)");
+        TreapVersions y = Trees.withWeights(40, 2, 5, 9, 1);
         y.put(0, 1, 1);
         Check.same("no handle", -2, y.put(1, 2, 2));
         Check.same("not live", -1, y.put(2, 2, 2));
         y.drop(0);
         Check.same("handle 0 again", 0, y.put(1, 2, 2));
-        isTree("NOHANDLE and BADVER draw no weight", y, 0, row(1, 2), row(1, 0));
-        TreapVersions z = withWeights(5, 8, 5, 3, 9, 1);
+        Trees.isTree("NOHANDLE and BADVER draw no weight", y, 0, "2(1,-)");
+        TreapVersions z = Trees.withWeights(5, 8, 5, 3, 9, 1);
         z.put(0, 1, 1);
         z.put(1, 2, 2);
         Check.same("no room", -3, z.put(2, 3, 3));
@@ -216,7 +170,7 @@ public final class PromisesTest {
         Check.same("room again", 1, z.put(2, 3, 3));
         Check.same("room again: used", 5, z.used());
         Check.same("room again: sweeps", 2, z.sweeps());
-        isTree("NOROOM draws no weight", z, 1, row(1, 2, 3), row(1, 2, 0));
+        Trees.isTree("NOROOM draws no weight", z, 1, "3(1(-,2),-)");
     }
 
     private static void putRefused() {
@@ -236,49 +190,49 @@ public final class PromisesTest {
     }
 
     private static void remove() {
-        TreapVersions x = fourKeys(40);
+        TreapVersions x = Trees.fourKeys(40);
         int used = x.used();
-        isTree("before remove", x, 4, row(1, 2, 4, 6), row(2, 1, 0, 1));
+        Trees.isTree("before remove", x, 4, "4(2(1,-),6)");
         Check.same("remove the root", 5, x.remove(4, 4));
-        isTree("remove the root", x, 5, row(1, 2, 6), row(2, 1, 0));
+        Trees.isTree("remove the root", x, 5, "6(2(1,-),-)");
         Check.same("remove the root copies 6", used + 1, x.used());
         Check.same("remove the root shares 1 and 2", 2, x.shared(4, 5));
         Check.same("remove a leaf", 6, x.remove(4, 1));
-        isTree("remove a leaf", x, 6, row(2, 4, 6), row(1, 0, 1));
+        Trees.isTree("remove a leaf", x, 6, "4(2,6)");
         Check.same("remove a leaf copies what is above", used + 3, x.used());
         Check.same("remove a leaf shares 6", 1, x.shared(4, 6));
         Check.same("remove over one tree", 7, x.remove(4, 2));
-        isTree("remove over one tree", x, 7, row(1, 4, 6), row(1, 0, 1));
+        Trees.isTree("remove over one tree", x, 7, "4(1,6)");
         Check.same("remove over one tree copies 4", used + 4, x.used());
         Check.same("remove over one tree shares 1 and 6", 2, x.shared(4, 7));
-        isTree("remove leaves the old version", x, 4, row(1, 2, 4, 6), row(2, 1, 0, 1));
+        Trees.isTree("remove leaves the old version", x, 4, "4(2(1,-),6)");
         x.drop(5);
         Check.same("remove a key that is not there", 5, x.remove(4, 3));
         Check.same("remove nothing uses nothing", used + 4, x.used());
         Check.same("remove nothing is the tree itself", 4, x.shared(4, 5));
         x.drop(5);
         Check.same("remove the only key", 5, x.remove(1, 4));
-        isTree("remove the only key", x, 5, row(), row());
+        Trees.isTree("remove the only key", x, 5, "-");
         x.drop(5);
         Check.same("remove from none", 5, x.remove(0, 4));
         Check.same("remove down to none uses nothing", used + 4, x.used());
     }
 
     private static void removeWithEqualWeights() {
-        TreapVersions x = withWeights(40, 8, 9, 5, 5);
+        TreapVersions x = Trees.withWeights(40, 8, 9, 5, 5);
         x.put(0, 4, 1);
         x.put(1, 2, 1);
         x.put(2, 6, 1);
         int used = x.used();
         Check.same("remove over equal weights", 4, x.remove(3, 4));
-        isTree("remove over equal weights", x, 4, row(2, 6), row(0, 1));
+        Trees.isTree("remove over equal weights", x, 4, "2(-,6)");
         Check.same("remove over equal weights copies 2", used + 1, x.used());
         Check.same("remove over equal weights shares 6 of version 3", 1, x.shared(3, 4));
         Check.same("and none of version 2", 0, x.shared(2, 4));
     }
 
     private static void removeRefused() {
-        TreapVersions x = withWeights(3, 3, 5, 3);
+        TreapVersions x = Trees.withWeights(3, 3, 5, 3);
         for (int version : NO_HANDLES) {
             Check.same("remove in " + version, -1, x.remove(version, 1));
         }
@@ -296,42 +250,42 @@ public final class PromisesTest {
         Check.same("remove after a sweep", 0, x.remove(2, 2));
         Check.same("remove after a sweep: used", 3, x.used());
         Check.same("remove after a sweep: sweeps", 2, x.sweeps());
-        isTree("remove after a sweep", x, 0, row(1), row(0));
+        Trees.isTree("remove after a sweep", x, 0, "1");
     }
 
     private static void below() {
-        TreapVersions x = fourKeys(40);
+        TreapVersions x = Trees.fourKeys(40);
         int used = x.used();
         Check.same("below 4", 5, x.below(4, 4));
-        isTree("below 4", x, 5, row(1, 2), row(1, 0));
+        Trees.isTree("below 4", x, 5, "2(1,-)");
         Check.same("below 4 copies 2", used + 1, x.used());
         Check.same("below 4 shares 1", 1, x.shared(4, 5));
         Check.same("below 5", 6, x.below(4, 5));
-        isTree("below 5", x, 6, row(1, 2, 4), row(2, 1, 0));
+        Trees.isTree("below 5", x, 6, "4(2(1,-),-)");
         Check.same("below 5 copies 4", used + 2, x.used());
         Check.same("below 5 shares 1 and 2", 2, x.shared(4, 6));
         Check.same("below 6", 7, x.below(4, 6));
-        isTree("below 6", x, 7, row(1, 2, 4), row(2, 1, 0));
+        Trees.isTree("below 6", x, 7, "4(2(1,-),-)");
         Check.same("below 6 copies 4", used + 3, x.used());
         for (int handle = 5; handle <= 7; handle++) {
             x.drop(handle);
         }
         Check.same("below the greatest int", 5, x.below(4, MAX));
-        isTree("below the greatest int", x, 5, row(1, 2, 4, 6), row(2, 1, 0, 1));
+        Trees.isTree("below the greatest int", x, 5, "4(2(1,-),6)");
         Check.same("below the greatest int copies 4 and 6", used + 5, x.used());
         Check.same("below the greatest int shares 1 and 2", 2, x.shared(4, 5));
         Check.same("below the least key", 6, x.below(4, 1));
-        isTree("below the least key", x, 6, row(), row());
+        Trees.isTree("below the least key", x, 6, "-");
         Check.same("below the least int", 7, x.below(4, MIN));
-        isTree("below the least int", x, 7, row(), row());
+        Trees.isTree("below the least int", x, 7, "-");
         x.drop(7);
         Check.same("below of none", 7, x.below(0, 3));
         Check.same("below to none uses nothing", used + 5, x.used());
-        isTree("below leaves the old version", x, 4, row(1, 2, 4, 6), row(2, 1, 0, 1));
+        Trees.isTree("below leaves the old version", x, 4, "4(2(1,-),6)");
     }
 
     private static void belowRefused() {
-        TreapVersions x = withWeights(3, 3, 5, 3);
+        TreapVersions x = Trees.withWeights(3, 3, 5, 3);
         for (int version : NO_HANDLES) {
             Check.same("below in " + version, -1, x.below(version, 1));
         }
@@ -346,20 +300,20 @@ public final class PromisesTest {
         x.drop(1);
         Check.same("below after a sweep", 0, x.below(2, 2));
         Check.same("below after a sweep: used", 3, x.used());
-        isTree("below after a sweep", x, 0, row(1), row(0));
+        Trees.isTree("below after a sweep", x, 0, "1");
     }
 
     private static void join() {
-        TreapVersions x = withWeights(40, 8, 5, 7, 6, 2);
+        TreapVersions x = Trees.withWeights(40, 8, 5, 7, 6, 2);
         x.put(0, 2, 20);
         x.put(0, 8, 80);
         x.put(2, 9, 90);
         x.put(1, 1, 10);
-        isTree("lower", x, 4, row(1, 2), row(1, 0));
-        isTree("upper", x, 3, row(8, 9), row(0, 1));
+        Trees.isTree("lower", x, 4, "2(1,-)");
+        Trees.isTree("upper", x, 3, "8(-,9)");
         int used = x.used();
         Check.same("join", 5, x.join(4, 3));
-        isTree("join", x, 5, row(1, 2, 8, 9), row(2, 1, 0, 1));
+        Trees.isTree("join", x, 5, "8(2(1,-),9)");
         Check.same("join copies 8", used + 1, x.used());
         Check.same("join shares with the lower", 2, x.shared(4, 5));
         Check.same("join shares with the upper", 1, x.shared(3, 5));
@@ -370,22 +324,22 @@ public final class PromisesTest {
         Check.same("join with none before is the tree itself", 2, x.shared(3, 7));
         x.drop(7);
         Check.same("join of none and none", 7, x.join(0, 0));
-        isTree("join of none and none", x, 7, row(), row());
+        Trees.isTree("join of none and none", x, 7, "-");
         Check.same("join with none uses nothing", used + 1, x.used());
     }
 
     private static void joinWithEqualWeights() {
-        TreapVersions x = withWeights(40, 8, 6, 6);
+        TreapVersions x = Trees.withWeights(40, 8, 6, 6);
         x.put(0, MIN, 20);
         x.put(0, MAX, 80);
         Check.same("join with equal weights", 3, x.join(1, 2));
-        isTree("join with equal weights", x, 3, row(MIN, MAX), row(0, 1));
+        Trees.isTree("join with equal weights", x, 3, "-2147483648(-,2147483647)");
         Check.same("join with equal weights copies the lower", 0, x.shared(1, 3));
         Check.same("join with equal weights shares the upper", 1, x.shared(2, 3));
     }
 
     private static void joinRefused() {
-        TreapVersions x = withWeights(3, 4, 5, 7);
+        TreapVersions x = Trees.withWeights(3, 4, 5, 7);
         for (int version : NO_HANDLES) {
             Check.same("join of " + version + " and 0", -1, x.join(version, 0));
             Check.same("join of 0 and " + version, -1, x.join(0, version));
@@ -440,14 +394,14 @@ public final class PromisesTest {
     }
 
     private static void getAndContains() {
-        TreapVersions x = fourKeys(40);
+        TreapVersions x = Trees.fourKeys(40);
         x.put(0, MIN, MAX);
         x.put(5, MAX, MIN);
-        for (int k : row(1, 2, 4, 6)) {
+        for (int k : Trees.row(1, 2, 4, 6)) {
             Check.same("get " + k, k * 10, () -> x.get(4, k));
             Check.holds("contains " + k, x.contains(4, k));
         }
-        for (int k : row(MIN, -1, 0, 3, 5, 7, MAX)) {
+        for (int k : Trees.row(MIN, -1, 0, 3, 5, 7, MAX)) {
             Check.same("get " + k, Check.NO_SUCH_ELEMENT, () -> x.get(4, k));
             Check.holds("contains not " + k, !x.contains(4, k));
         }
@@ -465,7 +419,7 @@ public final class PromisesTest {
     }
 
     private static void size() {
-        TreapVersions x = fourKeys(40);
+        TreapVersions x = Trees.fourKeys(40);
         for (int version = 0; version <= 4; version++) {
             Check.same("size of " + version, version, x.size(version));
         }
@@ -478,14 +432,14 @@ public final class PromisesTest {
     }
 
     private static void floor() {
-        TreapVersions x = fourKeys(40);
-        int[] asked = row(1, 2, 3, 4, 5, 6, 7, MAX);
-        int[] due = row(1, 2, 2, 4, 4, 6, 6, 6);
+        TreapVersions x = Trees.fourKeys(40);
+        int[] asked = Trees.row(1, 2, 3, 4, 5, 6, 7, MAX);
+        int[] due = Trees.row(1, 2, 2, 4, 4, 6, 6, 6);
         for (int i = 0; i < asked.length; i++) {
             int k = asked[i];
             Check.same("floor of " + k, due[i], () -> x.floor(4, k));
         }
-        for (int k : row(0, -1, MIN)) {
+        for (int k : Trees.row(0, -1, MIN)) {
             Check.same("floor of " + k, Check.NO_SUCH_ELEMENT, () -> x.floor(4, k));
         }
         x.put(0, MIN, 1);
@@ -500,13 +454,13 @@ public final class PromisesTest {
     }
 
     private static void keyAt() {
-        TreapVersions x = fourKeys(40);
-        int[] due = row(1, 2, 4, 6);
+        TreapVersions x = Trees.fourKeys(40);
+        int[] due = Trees.row(1, 2, 4, 6);
         for (int i = 0; i < due.length; i++) {
             int at = i;
             Check.same("keyAt " + i, due[i], () -> x.keyAt(4, at));
         }
-        for (int i : row(MIN, -2, -1, 4, 5, MAX)) {
+        for (int i : Trees.row(MIN, -2, -1, 4, 5, MAX)) {
             Check.same("keyAt " + i, Check.OUT_OF_BOUNDS, () -> x.keyAt(4, i));
         }
         Check.same("keyAt 0 in none", Check.OUT_OF_BOUNDS, () -> x.keyAt(0, 0));
@@ -520,7 +474,7 @@ public final class PromisesTest {
     }
 
     private static void sum() {
-        TreapVersions x = fourKeys(40);
+        TreapVersions x = Trees.fourKeys(40);
         Check.same("sum of all", 130, x.sum(4, MIN, MAX));
         Check.same("sum takes both ends", 120, x.sum(4, 2, 6));
         Check.same("sum between keys", 60, x.sum(4, 2, 5));
@@ -546,9 +500,9 @@ public final class PromisesTest {
     }
 
     private static void depth() {
-        TreapVersions x = fourKeys(40);
-        isTree("depth", x, 4, row(1, 2, 4, 6), row(2, 1, 0, 1));
-        for (int k : row(MIN, 0, 3, 5, 7, MAX)) {
+        TreapVersions x = Trees.fourKeys(40);
+        Trees.isTree("depth", x, 4, "4(2(1,-),6)");
+        for (int k : Trees.row(MIN, 0, 3, 5, 7, MAX)) {
             Check.same("depth of " + k, Check.NO_SUCH_ELEMENT, () -> x.depth(4, k));
         }
         Check.same("depth in none", Check.NO_SUCH_ELEMENT, () -> x.depth(0, 0));
@@ -560,7 +514,7 @@ public final class PromisesTest {
     }
 
     private static void shared() {
-        TreapVersions x = fourKeys(40);
+        TreapVersions x = Trees.fourKeys(40);
         Check.same("shared with itself", 4, x.shared(4, 4));
         Check.same("shared of neighbours", 1, x.shared(3, 4));
         Check.same("shared the other way", 1, x.shared(4, 3));
@@ -578,7 +532,7 @@ public final class PromisesTest {
     }
 
     private static void nodesUsedAndSweeps() {
-        TreapVersions x = fourKeys(11);
+        TreapVersions x = Trees.fourKeys(11);
         Check.same("used of four keys", 1 + 2 + 2 + 3, x.used());
         Check.same("nodes of four keys", 8, x.nodes());
         x.remove(4, 77);
@@ -606,24 +560,24 @@ public final class PromisesTest {
 
     /** Many updates in a small store, so that places are used again while old versions look on. */
     private static void sweepKeepsWhatLives() {
-        TreapVersions x = withWeights(9, 4, 4, 9, 2);
+        TreapVersions x = Trees.withWeights(9, 4, 4, 9, 2);
         x.put(0, 10, 1);
         x.put(1, 20, 2);
         x.put(2, 30, 3);
         x.drop(1);
         x.drop(2);
-        for (int i = 0; i < 60; i++) {
+        for (int i = 0; i < 40; i++) {
             int made = x.put(3, 30, 1000 + i);
             Check.same("again and again", 1, made);
             Check.same("the new value", 1000 + i, () -> x.get(1, 30));
-            isTree("the old version", x, 3, row(10, 20, 30), row(1, 0, 1));
+            Trees.isTree("the old version", x, 3, "20(10,30)");
             Check.same("the old values", 6, x.sum(3, MIN, MAX));
             x.drop(1);
         }
     }
 
     private static void weightsWrap() {
-        int[] seeds = row(MIN, -1, MAX, -5, 123456789);
+        int[] seeds = Trees.row(MIN, -1, MAX, -5, 123456789);
         for (int seed : seeds) {
             TreapVersions x = new TreapVersions(40, 3, seed);
             TreapModel due = new TreapModel(40, 3, seed);
