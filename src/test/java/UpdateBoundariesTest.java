@@ -129,8 +129,9 @@ public final class UpdateBoundariesTest {
     }
 
     /**
-     * Terms: "it becomes itself times 1103515245 plus 12345 (it wraps)". The trees were reckoned by hand
-     * from the weights: 0, 12, 4, 5, 10, 15, 13, 13 with the seed 0, and so on.
+     * Terms: "it becomes itself times 1103515245 plus 12345 (it wraps)". The trees due come
+     * from a small program of another language, by the weights: 0, 12, 4, 5, 10, 15, 13, 13 with the
+     * seed 0, and so on.
      */
     private static void seedsAtTheEnds() {
         String of0 = "5(1(0,4(3(2,-),-)),6(-,7))";
