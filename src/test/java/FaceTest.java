@@ -31,6 +31,10 @@ public final class FaceTest {
         }
         Check.same("members beside the face " + seen, 0, seen.size());
         checkNested(type);
+        checkHidden(type, publicNames(type));
+        for (Class<?> nested : type.getDeclaredClasses()) {
+            checkHidden(nested, publicNames(type));
+        }
         Check.end();
     }
 
@@ -86,6 +90,28 @@ public final class FaceTest {
             int modifiers = nested.getModifiers();
             boolean hidden = !Modifier.isPublic(modifiers) && !Modifier.isProtected(modifiers);
             Check.holds(nested.getSimpleName() + " is hidden and static", hidden && Modifier.isStatic(modifiers));
+        }
+    }
+
+    private static Set<String> publicNames(Class<?> type) {
+        Set<String> names = new TreeSet<>();
+        for (Method method : type.getDeclaredMethods()) {
+            if (Modifier.isPublic(method.getModifiers())) {
+                names.add(method.getName());
+            }
+        }
+        return names;
+    }
+
+    /** LANGUAGE.md, rules 1 and 5: no private method with a public one's name, no static state. */
+    private static void checkHidden(Class<?> type, Set<String> publicNames) {
+        for (Method method : type.getDeclaredMethods()) {
+            boolean clashes = !Modifier.isPublic(method.getModifiers()) && publicNames.contains(method.getName());
+            Check.holds(type.getSimpleName() + "." + method.getName() + " has a name of its own", !clashes);
+        }
+        for (Field field : type.getDeclaredFields()) {
+            boolean isState = Modifier.isStatic(field.getModifiers()) && !Modifier.isFinal(field.getModifiers());
+            Check.holds(type.getSimpleName() + "." + field.getName() + " is no static state", !isState);
         }
     }
 }
