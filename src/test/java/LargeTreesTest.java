@@ -27,6 +27,7 @@ public final class LargeTreesTest {
         removeUnderTheLongestWay();
         belowAllOfTheLongestWay();
         longestJoint();
+        belowBehindGreaterOnes();
         deepestToTheLeft();
         Check.end();
     }
@@ -264,10 +265,7 @@ public final class LargeTreesTest {
     private static void longestJoint() {
         Chain c = new Chain(ROOM, ROOM, 19);
         int k = c.last() + 1;
-        for (int i = 0; i < 150 && c.above(c.drawn()) < c.size; i++) {
-            c.x.drop(c.x.put(0, 7, 7));
-        }
-        int upper = c.x.put(0, k, 5);
+        int upper = putUnderAllWeights(c, k);
         int made = c.x.join(c.version, upper);
         Check.same("join under 19: nodes", 19 + 1 + 19, c.x.nodes());
         Check.same("join under 19: in common with the lower", 0, c.x.shared(c.version, made));
@@ -278,6 +276,75 @@ public final class LargeTreesTest {
             int at = i;
             Check.same("join under 19: depth at " + i, i, () -> c.x.depth(made, c.key(at)));
         }
+        Chain longer = new Chain(ROOM, ROOM, 20);
+        int under = putUnderAllWeights(longer, longer.last() + 1);
+        Check.same("join under 20, 21 + 20", NOROOM, longer.x.join(longer.version, under));
+    }
+
+    /** A version with k alone, whose weight lets all of the chain go above it. */
+    private static int putUnderAllWeights(Chain c, int k) {
+        for (int i = 0; i < 150 && c.above(c.drawn()) < c.size; i++) {
+            c.x.drop(c.x.put(0, 7, 7));
+        }
+        return c.x.put(0, k, 5);
+    }
+
+    /**
+     * Terms, BELOW: "its nodes with keys less than k are copied": 14 of them, behind 12 on the way whose
+     * keys are greater, which are not.
+     */
+    private static void belowBehindGreaterOnes() {
+        TreapVersions x = new TreapVersions(ROOM, 8, 1);
+        int version = lesserUnderGreaterOnes(x);
+        Check.same("14 under 12: size", 26, x.size(version));
+        Check.same("14 under 12: depth of the last", 25, () -> x.depth(version, x.keyAt(version, 13)));
+        Check.same("14 under 12: floor", x.keyAt(version, 13), () -> x.floor(version, 999));
+        int below = x.below(version, 1000);
+        Check.same("below 1000: size", 14, x.size(below));
+        Check.same("below 1000: nodes", 26 + 14, x.nodes());
+        for (int i = 0; i < 14; i++) {
+            int at = i;
+            Check.same("below 1000: depth at " + i, i, () -> x.depth(below, x.keyAt(version, at)));
+        }
+        x.drop(below);
+        Check.same("put 1000, 26 + 27", NOROOM, x.put(version, 1000, 1));
+    }
+
+    /**
+     * The weights 15 .. 4, each once, go to a chain to the left with keys over 1000, and 14 lesser ones to a
+     * chain to the right with keys under 1000; the first stands over the second when they are joined.
+     */
+    private static int lesserUnderGreaterOnes(TreapVersions x) {
+        boolean[] seen = new boolean[16];
+        int state = 1;
+        int lower = 0;
+        int upper = 0;
+        for (int i = 0; i < 150; i++) {
+            state = state * 1103515245 + 12345;
+            int weight = (state >>> 16) & 15;
+            if (weight >= 4 && !seen[weight]) {
+                seen[weight] = true;
+                upper = replace(x, upper, 1000 + weight);
+            } else if (weight < 4 && x.size(lower) < 14) {
+                lower = replace(x, lower, (3 - weight) * 200 + 150 - i);
+            } else {
+                x.drop(x.put(0, 7, 7));
+            }
+        }
+        int made = x.join(lower, upper);
+        Check.same("12 over 14: nodes", 12 + 14 + 12, x.nodes());
+        x.drop(lower);
+        x.drop(upper);
+        return made;
+    }
+
+    /** Puts a key and drops the version before, unless it is handle 0, which stays none. */
+    private static int replace(TreapVersions x, int version, int k) {
+        int next = x.put(version, k, k);
+        if (version != 0) {
+            x.drop(version);
+        }
+        return next;
     }
 
     /** The first keys of a chain, each under the one before. */
@@ -322,11 +389,7 @@ public final class LargeTreesTest {
             if (seen[weight]) {
                 x.drop(x.put(0, 7, 7));
             } else {
-                int next = x.put(version, weight, weight);
-                if (version != 0) {
-                    x.drop(version);
-                }
-                version = next;
+                version = replace(x, version, weight);
                 seen[weight] = true;
             }
         }
